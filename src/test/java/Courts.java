@@ -1,0 +1,42 @@
+/** What several tests begin with. */
+final class Courts {
+    private Courts() {
+    }
+
+    static void write(BlowOwed x, String text) {
+        x.wipe();
+        for (int i = 0; i < text.length(); i++) {
+            x.say(text.charAt(i));
+        }
+    }
+
+    static int done(BlowOwed x, String text) {
+        write(x, text);
+        return x.done();
+    }
+
+    /** 100 times the act that can not be and why; NONE: all can be. */
+    static int why(BlowOwed x, String text) {
+        write(x, text);
+        int act = x.judge(0);
+        return act < 0 ? act : 100 * act + x.judge(1);
+    }
+
+    /** The i-th debt as striker, struck, how much, day, in one number. */
+    static long debt(BlowOwed x, int i) {
+        return x.debt(i, 0) * 10000000L + x.debt(i, 1) * 1000000L + x.debt(i, 2) * 10000L + x.debt(i, 3);
+    }
+
+    /** A year of ten days, all of them winter; a road of one day, so that it takes two. */
+    static BlowOwed shortYear() {
+        BlowOwed x = new BlowOwed();
+        x.chapels(3);
+        x.yearOf(10);
+        x.road(0, 1, 1);
+        x.road(1, 2, 3);
+        x.knight(0, 0, 8, 20, 10);
+        x.knight(1, 1, 6, 12, 5);
+        x.knight(2, 0, 3, 9, 0);
+        return x;
+    }
+}
