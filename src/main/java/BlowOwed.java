@@ -33,17 +33,14 @@ public final class BlowOwed {
 
     private final Pad pad = new Pad();
     private final Court court = new Court();
+    /** null: that one was not kept. */
     private final Court[] images = new Court[IMAGES];
-    private final boolean[] isKept = new boolean[IMAGES];
     private final Trial judged = new Trial();
     private final Journeys journeys = new Journeys();
     private final Ledger ledger = new Ledger();
     private final Scars scars = new Scars();
 
     public BlowOwed() {
-        for (int n = 0; n < IMAGES; n++) {
-            images[n] = new Court();
-        }
     }
 
     // ---- 1 chapels, knights, courts
@@ -328,8 +325,10 @@ public final class BlowOwed {
         if (!isWithin(n, 0, IMAGES - 1)) {
             return OUTSIDE;
         }
+        if (images[n] == null) {
+            images[n] = new Court();
+        }
         images[n].copy(court);
-        isKept[n] = true;
         return 1;
     }
 
@@ -337,7 +336,7 @@ public final class BlowOwed {
         if (!isWithin(n, 0, IMAGES - 1)) {
             return OUTSIDE;
         }
-        if (!isKept[n]) {
+        if (images[n] == null) {
             return STATE;
         }
         court.copy(images[n]);
@@ -659,7 +658,7 @@ public final class BlowOwed {
 
         private void copy(Debts from) {
             count = from.count;
-            for (int i = 0; i < count && i < MOST_DEBTS; i++) {
+            for (int i = 0; i < MOST_DEBTS && i < count; i++) {
                 Debt debt = from.rows[i];
                 rows[i].set(debt.striker, debt.struck, debt.much, debt.day);
             }
@@ -677,7 +676,7 @@ public final class BlowOwed {
         }
 
         private void endAllOf(int knight) {
-            for (int i = 0; i < count && i < MOST_DEBTS; i++) {
+            for (int i = 0; i < MOST_DEBTS && i < count; i++) {
                 if (rows[i].striker == knight || rows[i].struck == knight) {
                     rows[i].isGone = true;
                 }
@@ -685,7 +684,7 @@ public final class BlowOwed {
         }
 
         private void inherit(int knight, int heir) {
-            for (int i = 0; i < count && i < MOST_DEBTS; i++) {
+            for (int i = 0; i < MOST_DEBTS && i < count; i++) {
                 Debt debt = rows[i];
                 if (debt.striker == knight || debt.struck == knight) {
                     debt.striker = debt.striker == knight ? heir : debt.striker;
@@ -700,7 +699,7 @@ public final class BlowOwed {
         /** Those that stay keep their order. */
         private void sweep() {
             int stay = 0;
-            for (int i = 0; i < count && i < MOST_DEBTS; i++) {
+            for (int i = 0; i < MOST_DEBTS && i < count; i++) {
                 Debt debt = rows[i];
                 if (!debt.isGone) {
                     rows[i] = rows[stay];
@@ -713,7 +712,7 @@ public final class BlowOwed {
 
         /** The oldest that is owed to him on that day; NONE. */
         private int findDueTo(int knight, int day) {
-            for (int i = 0; has(i); i++) {
+            for (int i = 0; i < MOST_DEBTS && i < count; i++) {
                 if (rows[i].struck == knight && rows[i].day == day && !rows[i].isGone) {
                     return i;
                 }
@@ -723,7 +722,7 @@ public final class BlowOwed {
 
         private int countOwedBy(int knight) {
             int owed = 0;
-            for (int i = 0; has(i); i++) {
+            for (int i = 0; i < MOST_DEBTS && i < count; i++) {
                 owed += rows[i].striker == knight ? 1 : 0;
             }
             return owed;
@@ -904,7 +903,7 @@ public final class BlowOwed {
             }
             Knight flincher = knightAt(knight);
             boolean isDue = false;
-            for (int i = 0; debts.has(i); i++) {
+            for (int i = 0; i < MOST_DEBTS && i < debts.count; i++) {
                 Debt debt = debts.rows[i];
                 if (debt.striker == knight && debt.day == day && flincher.isIn(knightAt(debt.struck).own)) {
                     debt.much = debt.much / 2;
@@ -924,7 +923,7 @@ public final class BlowOwed {
                 return why;
             }
             int before = debts.count;
-            for (int i = 0; debts.has(i); i++) {
+            for (int i = 0; i < MOST_DEBTS && i < debts.count; i++) {
                 debts.rows[i].isGone = debts.rows[i].struck == knight;
             }
             debts.sweep();
@@ -950,7 +949,7 @@ public final class BlowOwed {
 
         /** All at once: what ends on one of the days does not depend on what ends on another. */
         private void passDays(int days) {
-            for (int i = 0; debts.has(i); i++) {
+            for (int i = 0; i < MOST_DEBTS && i < debts.count; i++) {
                 Debt debt = debts.rows[i];
                 if (debt.day >= day && debt.day < day + days) {
                     debt.isGone = true;
@@ -1131,7 +1130,7 @@ public final class BlowOwed {
         private int metAlone(Court court, int knight) {
             setOff(court, knight);
             int bits = 0;
-            for (int i = 0; court.debts.has(i); i++) {
+            for (int i = 0; i < MOST_DEBTS && i < court.debts.count; i++) {
                 bits |= isMet(court, knight, i, first) ? 1 << i : 0;
             }
             return bits;
@@ -1224,7 +1223,7 @@ public final class BlowOwed {
 
         private int sumOf(int set, Debts debts) {
             int sum = 0;
-            for (int i = 0; debts.has(i); i++) {
+            for (int i = 0; i < MOST_DEBTS && i < debts.count; i++) {
                 Debt debt = debts.rows[i];
                 sum += (set >> debt.striker & 1) * debt.much;
                 sum -= (set >> debt.struck & 1) * debt.much;
@@ -1234,7 +1233,7 @@ public final class BlowOwed {
 
         private int shortestRing(Debts debts) {
             Arrays.fill(owes, 0);
-            for (int i = 0; debts.has(i); i++) {
+            for (int i = 0; i < MOST_DEBTS && i < debts.count; i++) {
                 if (isWithin(debts.rows[i].striker, 0, KNIGHTS - 1)) {
                     owes[debts.rows[i].striker] |= 1 << debts.rows[i].struck;
                 }

@@ -11,7 +11,9 @@ public final class ReckoningsTest {
         scars();
         snow();
         year();
+        daysOfAYear();
         images();
+        imagesOfSights();
         told();
         CHECK.end();
     }
@@ -167,6 +169,43 @@ public final class ReckoningsTest {
         due("28 gives back", x.year(0, 1, 1), 1);
         due("28 no blow", x.year(0, 1, 0), 0);
         due("28 honour 1 and 3 more", x.year(0, 1, 2), 10010);
+    }
+
+    /** Seed 0: C strikes A, 1 day; C strikes B, 7 days; C strikes F, 7 days; E strikes D, 9 days. */
+    private static void daysOfAYear() {
+        for (int year = 13; year <= 14; year++) {
+            BlowOwed x = new BlowOwed();
+            x.yearOf(year);
+            x.knight(0, 0, 9, 9, 20);
+            x.knight(2, 0, 9, 9, 30);
+            Courts.done(x, "AC01");
+            // What C and A owe each other is due on day 14, or 15; fifteen days pass.
+            due("28 fifteen days, year " + year, x.year(0, 3, 2), year == 13 ? 10042 : 10050);
+            due("28 one blow", x.year(0, 3, 0), 1);
+        }
+        BlowOwed x = new BlowOwed();
+        x.knight(3, 0, 9, 1, 0);
+        x.knight(4, 0, 9, 9, 0);
+        due("28 not before the fourth turn", x.year(0, 3, 0), 0);
+        due("28 E strikes D", x.year(0, 4, 0), 1);
+        due("28 D is dead", x.year(0, 4, 3), 1);
+        due("28 counted anew", x.year(0, 3, 0), 0);
+    }
+
+    private static void imagesOfSights() {
+        BlowOwed x = Courts.shortYear();
+        x.seen(3, 8);
+        x.image(0);
+        x.forget();
+        x.seen(0, 1);
+        due("30 B or C struck A", x.who(1), 6);
+        x.restore(0);
+        due("30 A struck D", x.who(1), 1);
+        x.image(1);
+        x.forget();
+        x.seen(3, 1);
+        x.restore(1);
+        due("30 by 8, not by 1", x.who(0), 1);
     }
 
     private static void images() {
