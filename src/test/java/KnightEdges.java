@@ -186,6 +186,7 @@ final class KnightEdges {
             x.heir(1, 3);
             doc.due("half again", x.debt(-1, 0), half[i] == 1 ? 1 : 3);
         }
+        heirsChapels();
         doc.says("(if that is 0, or both are the heir then, it is no more):");
         BlowOwed x = Courts.strong(3);
         Courts.done(x, "CA01AC01CB01AC02");
@@ -198,6 +199,46 @@ final class KnightEdges {
         doc.due("1 by flinching 0", x.debt(0, 2), 0);
         x.heir(0, 1);
         doc.due("half of 0", x.debt(-1, 0), 1);
+    }
+
+    /** What is owed to the heir is met in his own chapel, which stays his: B's is near, D's is too far. */
+    private void heirsChapels() {
+        BlowOwed x = owedToC();
+        doc.due("C's chapel, where A is", x.inTime(0), 1);
+        x.heir(2, 1);
+        doc.due("B's own", x.told(21), 1);
+        doc.due("B's, in two days", x.inTime(0), 1);
+        Courts.done(x, "A1:.");
+        doc.due("A flinches in B's", Courts.done(x, "A!"), 1);
+        doc.due("B gives back in his own", Courts.done(x, "B="), 1);
+        doc.due("by a fourth", x.state(0, 1), 97);
+        x = owedToC();
+        x.heir(2, 1);
+        Courts.done(x, ":.");
+        doc.due("A flinches in C's", Courts.why(x, "A!"), 6);
+        doc.due("B gives back", Courts.done(x, "B="), 1);
+        doc.due("A is not in B's", x.state(0, 2), 9995);
+        x = owedToC();
+        x.heir(2, 3);
+        doc.due("D's own", x.told(41), 2);
+        doc.due("D's, in eighteen days", x.inTime(0), 0);
+        doc.due("not all", x.round(0, 0), 0);
+        doc.due("none", x.round(0, 1), 0);
+    }
+
+    /** A owes C 8 on day 11, in chapel 0, where both are. */
+    private static BlowOwed owedToC() {
+        BlowOwed x = new BlowOwed();
+        x.chapels(3);
+        x.yearOf(10);
+        x.road(0, 1, 1);
+        x.road(0, 2, 9);
+        x.knight(0, 0, 20, 99, 0);
+        x.knight(1, 1, 20, 99, 0);
+        x.knight(2, 0, 20, 99, 0);
+        x.knight(3, 2, 20, 99, 0);
+        Courts.done(x, "AC08");
+        return x;
     }
 
     private void heirsOfBothSides() {

@@ -1,48 +1,35 @@
+import com.sun.source.tree.CompilationUnitTree;
+import com.sun.source.util.JavacTask;
 import java.io.IOException;
+import java.nio.charset.StandardCharsets;
 import java.nio.file.Files;
 import java.nio.file.Path;
 import java.util.List;
+import javax.tools.JavaCompiler;
+import javax.tools.StandardJavaFileManager;
+import javax.tools.ToolProvider;
 
-/** What of LANGUAGE.md can be seen in the text of the class; run from the project's folder. */
+/** What of LANGUAGE.md can be seen in the class, as the compiler reads it; run from the project's folder. */
 public final class LanguageTest {
-    private static final String[] BARRED = {
-        "throw ", "catch ", "finally", "synchronized", "assert ", "->", "::", "getClass", "hashCode", "double ", "float ",
-        "while (", "System.out", "new int[][]", "List<", "Exact(", "static {", "import java.util.*"
-    };
-    private static final int MOST_LINES = 60;
+    private static final Path CLASS = Path.of("src/main/java/BlowOwed.java");
 
     public static void main(String[] args) throws IOException {
         Check check = new Check();
-        List<String> lines = Files.readAllLines(Path.of("src/main/java/BlowOwed.java"));
-        for (int i = 0; i < lines.size(); i++) {
-            line(check, i + 1, lines.get(i));
+        for (String line : Files.readAllLines(CLASS)) {
+            check.isTrue("signs 1 to 126: " + line, line.chars().allMatch(sign -> sign > 0 && sign < 127));
+            check.isTrue("one import: " + line, !line.startsWith("import ") || line.equals("import java.util.Arrays;"));
+            check.isTrue("no package: " + line, !line.startsWith("package "));
         }
-        methods(check, lines);
+        JavaCompiler compiler = ToolProvider.getSystemJavaCompiler();
+        try (StandardJavaFileManager files = compiler.getStandardFileManager(null, null, StandardCharsets.UTF_8)) {
+            JavacTask task = (JavacTask) compiler.getTask(null, files, null, List.of("-proc:none"), null,
+                files.getJavaFileObjects(CLASS));
+            CompilationUnitTree unit = task.parse().iterator().next();
+            task.analyze();
+            LanguageRules rules = new LanguageRules(check, task, unit);
+            rules.scan(unit, null);
+            rules.end();
+        }
         check.end();
-    }
-
-    private static void line(Check check, int number, String line) {
-        for (String barred : BARRED) {
-            check.isTrue("line " + number + " without " + barred, !line.contains(barred));
-        }
-        check.isTrue("line " + number + ": signs 1 to 126", line.chars().allMatch(sign -> sign > 0 && sign < 127));
-        check.isTrue("line " + number + ": one import", !line.startsWith("import ") || line.equals("import java.util.Arrays;"));
-        check.isTrue("line " + number + ": no package", !line.startsWith("package "));
-    }
-
-    private static void methods(Check check, List<String> lines) {
-        int begin = 0;
-        for (int i = 0; i < lines.size(); i++) {
-            String line = lines.get(i);
-            boolean opens = line.matches("    (    )?(public|private) .*\\) \\{");
-            if (opens) {
-                begin = i;
-                String parameters = line.substring(line.indexOf('(') + 1, line.lastIndexOf(')'));
-                check.isTrue("seven parameters: " + line, parameters.split(",").length <= 7);
-            }
-            if (line.equals("    }") || line.equals("        }")) {
-                check.isTrue("short: " + lines.get(begin), i - begin < MOST_LINES || lines.get(begin).contains(" class "));
-            }
-        }
     }
 }
