@@ -330,5 +330,10 @@ final class RoundEdges {
         Courts.done(x, ";");
         doc.due("none any more", x.ring(), NONE);
         doc.due("nobody there", new BlowOwed().ring(), NONE);
+        // A choice (NOTES.md): flinching ends no debt, so what is 0 by it is owed yet.
+        x = Courts.strong(2);
+        Courts.done(x, "AB01BA01:.A!");
+        doc.due("A owes B 0", x.debt(0, 2), 0);
+        doc.due("two yet", x.ring(), 2);
     }
 }
